@@ -196,8 +196,6 @@ public final class CapabilityVats {
         return asked == null ? BAD : asked.noteCount;
     }
 
-    // What is there.
-
     private static boolean isVat(int vat) {
         return vat >= 0 && vat < VATS;
     }
@@ -260,8 +258,6 @@ public final class CapabilityVats {
         }
     }
 
-    // References, and the promises among them.
-
     private Reference countsAs(Reference reference) {
         Reference meant = reference;
         // No promise is ever resolved to what counts as itself, so each is passed at most once.
@@ -313,8 +309,6 @@ public final class CapabilityVats {
         return made == null ? broken : made.self;
     }
 
-    // Routing.
-
     /** Resolves the message's promise; those that waited there are left to routeAll(). */
     private void settle(Message message, Reference answer) {
         message.answer = awaitedBy(answer) == message ? broken : brokenIfNothing(answer);
@@ -347,10 +341,8 @@ public final class CapabilityVats {
         }
     }
 
-    // Relaying and wrapping.
-
     private static boolean relays(Thing receiver, Message message) {
-        if (receiver.owner == null || receiver.owner.revoked) {
+        if (receiver.isCutOff()) {
             return false;
         }
         return receiver.kind == FACET || receiver.kind == WRAPPER && message.noteCount < MOST_NOTES;
@@ -369,7 +361,7 @@ public final class CapabilityVats {
         Reference wrapped = answer;
         for (int note = message.noteCount - 1; note >= 0; note--) {
             Thing passed = message.passed[note];
-            wrapped = passed.owner.revoked ? broken : wrap(wrapped, passed.owner, passed.inward);
+            wrapped = passed.isCutOff() ? broken : wrap(wrapped, passed.owner, passed.inward);
         }
         return wrapped;
     }
@@ -406,8 +398,6 @@ public final class CapabilityVats {
         }
         return made;
     }
-
-    // What objects answer.
 
     private Reference answer(Thing receiver, Message message) {
         if (receiver == null) {
@@ -532,8 +522,6 @@ public final class CapabilityVats {
         return brokenIfNothing(box.held);
     }
 
-    // Making.
-
     /** A new object, or null when there are as many as there may be. */
     private Thing make(int kind, int home, Thing owner) {
         if (thingCount >= MOST_OBJECTS) {
@@ -623,6 +611,11 @@ public final class CapabilityVats {
             this.self = new Reference(OBJECT, number);
         }
 
+        /** Of a facet or a wrapper: there is no gate or membrane any more that lets a message through. */
+        boolean isCutOff() {
+            return owner == null || owner.revoked;
+        }
+
         void openSlots(Reference content) {
             slots = new Reference[SLOTS];
             for (int slot = 0; slot < SLOTS; slot++) {
@@ -644,8 +637,8 @@ public final class CapabilityVats {
         int place;
         /** The one behind this in the line where it stands: a message stands in one line at a time. */
         Message behind;
-        /** A wrapper's membrane and direction never change, so the wrapper passed says the note; null before the first. */
-        Thing[] passed;
+        /** A wrapper's membrane and direction never change, so the wrapper that was passed is the note. */
+        final Thing[] passed = new Thing[MOST_NOTES];
         int noteCount;
 
         Message(int number, Reference target, int verb, Reference argument) {
@@ -657,9 +650,6 @@ public final class CapabilityVats {
         }
 
         void noteDown(Thing wrapper) {
-            if (passed == null) {
-                passed = new Thing[MOST_NOTES];
-            }
             if (noteCount < MOST_NOTES) {
                 passed[noteCount] = wrapper;
                 noteCount++;

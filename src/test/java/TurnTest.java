@@ -137,19 +137,19 @@ public final class TurnTest {
         resolvedChain();
     }
 
-    /** Each promise is resolved to the one before it, which is open still; then the first is resolved. */
+    /** Each promise is resolved to the one behind it, which is open still; then the last is resolved. */
     private static void resolvedChain() {
         CapabilityVats x = Script.run("6: promises resolved to one another", """
-                cell 0 = 0; cell 1 = 1; introduce 0 0 0 = true; introduce 0 1 1 = true; number 1 0 77 = true
-                send 0 1 0 -1 2 = 0
+                cell 0 = 0; introduce 0 0 0 = true; send 0 0 1 -1 1 = 0; send 0 1 2 -1 2 = 1; waiting 0 = 1
                 """);
-        for (int sent = 1; sent < 150; sent++) {
-            Script.more(x, "6: promises resolved to one another",
-                    "send 0 0 2 -1 3 = " + sent + "; turn 0 = " + sent + "; result " + sent + " = 3; value " + sent + " = 0");
-            x.send(0, 0, 6, 3, -1);
-            x.turn(0);
-            sent++;
+        for (int sent = 2; sent < 200; sent++) {
+            int last = sent == 2 ? 0 : sent - 1;
+            Script.more(x, "6: promises resolved to one another", "send 0 0 1 -1 1 = " + sent + "; turn 0 = " + last
+                    + "; result 0 = 3; value 0 = " + sent + "; waiting " + sent + " = 1; waiting " + last + " = 0");
         }
-        Script.more(x, "6: the first is resolved", "turn 1 = 0; result 149 = 1; value 149 = 77; which 0 2 = 77");
+        Script.more(x, "6: the last is resolved", """
+                introduce 0 1 0 = true; place 1 = 2; turn 0 = 199; result 0 = 2; value 0 = 0; result 198 = 2
+                place 1 = 1; next 0 0 = 1; turn 0 = 1
+                """);
     }
 }
