@@ -201,7 +201,7 @@ public final class HostBoundsTest {
         World w = new World();
         w.x.number(w.asker, 2, 7);
         w.x.number(w.asker, 3, 8);
-        while (w.x.messages() < 199) {
+        for (int sent = w.x.messages(); sent < 199; sent++) {
             w.x.send(w.asker, 2, 0, -1, -1);
         }
         Script.due("5: with 199 messages the last is sent", w.x.send(w.asker, 2, 0, -1, -1), 199);

@@ -217,7 +217,7 @@ public final class KindBoundsTest {
         World w = new World();
         int heir = w.purse;
         int due = 60;
-        while (w.x.objects() < 40) {
+        for (int object = w.x.objects(); object < 40; object++) {
             int made = w.make(w.mint, 0, World.number(1000000));
             Script.due("PURSE: a million goes over", w.tell(heir, 2, World.object(made)), "number 1000000");
             due += 1000000;

@@ -18,7 +18,7 @@ public final class RefusedTest {
         World full = new World();
         full.fillTo(40);
         leavesTheState("one with 40 objects", full.x);
-        while (full.x.messages() < 200) {
+        for (int sent = full.x.messages(); sent < 200; sent++) {
             full.post(full.maker, 0, World.NOTHING);
         }
         leavesTheState("one with 40 objects and 200 messages", full.x);

@@ -120,7 +120,7 @@ public final class ViewBoundsTest {
         w.x.introduce(w.maker, 0, 39);
         Script.due("11: the object's", w.x.which(w.maker, 0), 39);
         w.x.introduce(w.asker, 0, w.sleeper);
-        while (w.x.messages() < 200) {
+        for (int sent = w.x.messages(); sent < 200; sent++) {
             w.x.send(w.asker, 0, 0, -1, 3);
         }
         Script.due("11: the open promise's", w.x.which(w.asker, 3), 199);

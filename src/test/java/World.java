@@ -108,7 +108,7 @@ final class World {
 
     /** Cells until there are so many objects. */
     void fillTo(int objects) {
-        while (x.objects() < objects) {
+        for (int made = x.objects(); made < objects; made++) {
             x.cell(0);
         }
     }
