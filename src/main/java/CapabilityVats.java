@@ -230,7 +230,7 @@ public final class CapabilityVats {
         if (thing.kind == CELL) {
             return isSlot(slot) ? countsAs(thing.slots[slot]) : null;
         }
-        return slot == HELD && thing.held != null ? countsAs(thing.held) : null;
+        return slot == HELD && thing.holdsOne() ? countsAs(thing.held) : null;
     }
 
     private static int firstDetail(Thing thing) {
@@ -361,7 +361,8 @@ public final class CapabilityVats {
         Reference wrapped = answer;
         for (int note = message.noteCount - 1; note >= 0; note--) {
             Thing passed = message.passed[note];
-            wrapped = passed.isCutOff() ? broken : wrap(wrapped, passed.owner, passed.inward);
+            boolean isBarred = passed == null || passed.isCutOff();
+            wrapped = isBarred ? broken : wrap(wrapped, passed.owner, passed.inward);
         }
         return wrapped;
     }
@@ -381,8 +382,8 @@ public final class CapabilityVats {
 
     private Thing findWrapper(Reference meant, Thing membrane, boolean inward) {
         for (int i = 0; i < thingCount; i++) {
-            Thing thing = things[i];
-            boolean isOfMembrane = thing.kind == WRAPPER && thing.owner == membrane;
+            Thing thing = thingAt(i);
+            boolean isOfMembrane = thing != null && thing.kind == WRAPPER && thing.owner == membrane;
             if (isOfMembrane && thing.inward == inward && countsAs(thing.held).isSame(meant)) {
                 return thing;
             }
@@ -429,10 +430,10 @@ public final class CapabilityVats {
     }
 
     private Reference answerOfCell(Thing cell, int verb, Reference argument) {
-        if (verb < SLOTS) {
+        if (isSlot(verb)) {
             return brokenIfNothing(cell.slots[verb]);
         }
-        if (verb < 2 * SLOTS) {
+        if (isSlot(verb - SLOTS)) {
             cell.slots[verb - SLOTS] = argument;
             return numeral(0);
         }
@@ -527,10 +528,7 @@ public final class CapabilityVats {
         if (thingCount >= MOST_OBJECTS) {
             return null;
         }
-        Thing made = new Thing(thingCount, kind, home, owner);
-        if (kind == CELL) {
-            made.openSlots(nothing);
-        }
+        Thing made = new Thing(thingCount, kind, home, owner, nothing);
         things[thingCount] = made;
         thingCount++;
         return made;
@@ -593,9 +591,9 @@ public final class CapabilityVats {
         /** The facet's gate, the brand, the purse's mint or the wrapper's membrane; null for other kinds. */
         final Thing owner;
         final Reference self;
-        /** A cell's; null for other kinds. */
-        Reference[] slots;
-        /** The target of a facet or wrapper, or what is in a box; null for other kinds. */
+        /** A cell's; other kinds have them too, unused, so that none is ever null. */
+        final Reference[] slots = new Reference[SLOTS];
+        /** The target of a facet or wrapper, or what is in a box; other kinds leave it as it was made. */
         Reference held;
         /** A gate's; null for other kinds. */
         Thing facet;
@@ -603,24 +601,25 @@ public final class CapabilityVats {
         boolean inward;
         int balance;
 
-        Thing(int number, int kind, int home, Thing owner) {
+        Thing(int number, int kind, int home, Thing owner, Reference content) {
             this.number = number;
             this.kind = kind;
             this.home = home;
             this.owner = owner;
             this.self = new Reference(OBJECT, number);
+            this.held = content;
+            for (int slot = 0; slot < SLOTS; slot++) {
+                this.slots[slot] = content;
+            }
+        }
+
+        boolean holdsOne() {
+            return kind == FACET || kind == BOX || kind == WRAPPER;
         }
 
         /** Of a facet or a wrapper: there is no gate or membrane any more that lets a message through. */
         boolean isCutOff() {
             return owner == null || owner.revoked;
-        }
-
-        void openSlots(Reference content) {
-            slots = new Reference[SLOTS];
-            for (int slot = 0; slot < SLOTS; slot++) {
-                slots[slot] = content;
-            }
         }
     }
 
@@ -684,7 +683,6 @@ public final class CapabilityVats {
             if (first == null) {
                 last = null;
             }
-            taken.behind = null;
             length--;
             return taken;
         }

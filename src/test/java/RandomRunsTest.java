@@ -1,8 +1,8 @@
 import java.util.Random;
 
 /**
- * All promises: long runs of calls drawn from fixed seeds, each answer compared with PlainVats's, and after each call
- * that may change something the whole state that the host sees.
+ * All promises: long runs of calls drawn from fixed seeds, each answer compared with PlainVats's, and after every
+ * sixteenth call the whole state that the host sees.
  */
 public final class RandomRunsTest {
     private static final int RUNS = 1500;
